@@ -91,8 +91,15 @@ public final class ModelTest {
     private void code() {
         int f = oneFunction();
         int[] o = instruction();
-        due("code(" + f + "," + o[0] + "," + o[1] + "," + o[2] + "," + o[3] + "," + o[4] + ")",
-            fast.code(f, o[0], o[1], o[2], o[3], o[4]), slow.code(f, o[0], o[1], o[2], o[3], o[4]));
+        add(f, o[0], o[1], o[2], o[3], o[4]);
+    }
+
+    private void mend() {
+        due("mend()", fast.mend(), slow.mend());
+        for (int k = 0; slow.mends != null && k <= slow.mends.size(); k++) {
+            due("mended(" + k + ",0)", fast.mended(k, 0), slow.mended(k, 0));
+            due("mended(" + k + ",1)", fast.mended(k, 1), slow.mended(k, 1));
+        }
     }
 
     private void change() {
@@ -105,11 +112,56 @@ public final class ModelTest {
     }
 
     private void play() {
+        if (run % 5 == 1) {
+            lookForWitnesses();
+            return;
+        }
         int first = random.nextInt(3) == 0 ? 60 : 8 + random.nextInt(16);
         for (int k = 0; k < first; k++) code();
+        if (run % 40 == 0) fillAll();
         int more = 30 + random.nextInt(60);
         for (int k = 0; k < more && wrong == 0; k++) one();
         if (run % 20 == 0) askEachState();
+    }
+
+    private void fillAll() {
+        for (int f = 5; f >= 0; f--) {
+            for (int k = 0; k < 40; k++) {
+                int[] o = instruction();
+                add(f, o[0], o[1], o[2], o[3], o[4]);
+            }
+            due("change(" + f + ",0,8," + (f + 1) % 6 + ",0,0,0)", fast.change(f, 0, 8, (f + 1) % 6, 0, 0, 0) ? 1 : 0,
+                slow.change(f, 0, 8, (f + 1) % 6, 0, 0, 0) ? 1 : 0);
+        }
+        due("change(5,0,5,1,28,0,0)", fast.change(5, 0, 5, 1, 28, 0, 0) ? 1 : 0, slow.change(5, 0, 5, 1, 28, 0, 0) ? 1 : 0);
+    }
+
+    /** Programs of reads and skips, where the input tells whether a cell is written at a print. */
+    private void lookForWitnesses() {
+        int longest = random.nextInt(4) == 0 ? 29 : 14;
+        for (int k = 0; k < longest; k++) {
+            int f = random.nextInt(5) == 0 ? 1 : 0;
+            int kind = k < 3 ? 0 : random.nextInt(8);
+            int low = random.nextInt(3);
+            int high = 3 + random.nextInt(3);
+            if (kind == 0) add(f, 3, k < 3 ? k : low, 0, 0, 0);
+            else if (kind < 4) add(f, 5, low, random.nextInt(12) == 0 ? -3 : random.nextInt(4), 0, 0);
+            else if (kind == 4) add(f, random.nextInt(3) == 0 ? 10 : 0, high, 1, 0, 0);
+            else if (kind == 5) add(f, 4, high, 0, 0, 0);
+            else if (kind == 6) add(f, 6 + random.nextInt(2), 3, 2, 2, high == 3 ? low : high);
+            else add(f, random.nextInt(3) == 0 ? 8 : 2, random.nextInt(2), 0, 0, 0);
+        }
+        for (int f = 0; f < 2; f++) {
+            for (int i = 0; i < slow.functions.get(f).size(); i++) {
+                int l = 1 + random.nextInt(6);
+                due("witness(" + f + "," + i + "," + l + ")", fast.witness(f, i, l), slow.witness(f, i, l));
+            }
+        }
+    }
+
+    private void add(int f, int op, int a, int b, int c, int d) {
+        due("code(" + f + "," + op + "," + a + "," + b + "," + c + "," + d + ")",
+            fast.code(f, op, a, b, c, d), slow.code(f, op, a, b, c, d));
     }
 
     private void askEachState() {
@@ -158,7 +210,7 @@ public final class ModelTest {
                 int coins = rarely() ? upTo(102) - 1 : 1 + random.nextInt(5);
                 due("cost(" + f + "," + coins + ")", fast.cost(f, coins), slow.cost(f, coins));
                 break;
-            case 20: due("mend()", fast.mend(), slow.mend()); break;
+            case 20: mend(); break;
             case 21:
                 due("mended(" + k + "," + (what % 4) + ")", fast.mended(k, what % 4), slow.mended(k, what % 4));
                 break;

@@ -52,6 +52,8 @@ public final class PromisesTest {
         cell();
         flow();
         flowOfCalls();
+        flowOfLateReturns();
+        leftOvers();
         bad();
         state();
         stateOfEachOp();
@@ -379,6 +381,53 @@ public final class PromisesTest {
         due("11 no use is come to", x.flow(), 0);
         x.change(1, 1, SKIP, 1, 5, 0, 0);
         due("11 returns by a skip too", x.state(0, 1, 0), 3);
+    }
+
+    private static void flowOfLateReturns() {
+        // Written comes to the RETURN only by two skips back, when all else stands still already.
+        WrittenBench x = new WrittenBench();
+        put(x, 0, CALL, 1);
+        put(x, 1, SKIP, 0, 3);
+        put(x, 1, RETURN);
+        put(x, 1, SKIP, 0, -2);
+        put(x, 1, FREE, 1, 1);
+        put(x, 1, SET, 1, 1);
+        put(x, 1, SKIP, 0, -4);
+        put(x, 1, FREE, 1, 1);
+        due("11 what returns late", x.state(0, 1, 1), 3);
+    }
+
+    /** What a function had ahead of clear() must not be seen any more. */
+    private static void leftOvers() {
+        WrittenBench x = new WrittenBench();
+        put(x, 0, READ, 0);
+        put(x, 0, SKIP, 5, -4);
+        put(x, 0, PRINT, 6);
+        x.clear(0);
+        due("11 empty again", x.flow(), 0);
+        due("12 empty again", x.bad(0, 1), -1);
+        due("15 empty again", x.needs(0), 0);
+        due("18 empty again", x.mend(), 0);
+        put(x, 0, PRINT, 3);
+        due("12 one alone", x.bad(1, 1), -1);
+        due("15 one alone", x.needs(0), 1 << 3);
+        due("18 one alone", x.mend(), 1);
+        due("20 the skip is gone", x.apply(), true);
+        // FUNCTION 5 full, and come to at its end
+        WrittenBench y = new WrittenBench();
+        put(y, 0, CALL, 5);
+        for (int k = 0; k < 30; k++) put(y, 5, PRINT, 0);
+        due("11 full", y.flow(), 30);
+        due("12 full", y.bad(29, 1), 29);
+        due("12 behind", y.bad(30, 1), -1);
+        due("13 full", y.state(5, 30, 0), 2);
+        due("14 full", y.witness(5, 29, 1), 0);
+        due("15 full", y.needs(5), 1);
+        due("18 full", y.mend(), 1);
+        due("20 full", y.apply(), true);
+        y.change(0, 0, FREE, 0, 1, 0, 0);
+        due("18 in FUNCTION 5", y.mend(), 1);
+        due("20 full, so refused", y.apply(), false);
     }
 
     // Promise 12
