@@ -92,8 +92,11 @@ public final class WrittenBench {
             return NONE;
         }
         int had = program.length[f];
-        program.length[f] = 0;
-        programIsAnother();
+        if (had > 0) {
+            // Of an empty FUNCTION nothing goes, so mends that were found still fit.
+            program.length[f] = 0;
+            programIsAnother();
+        }
         return had;
     }
 

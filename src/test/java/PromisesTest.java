@@ -783,6 +783,7 @@ public final class PromisesTest {
         w.clear(4);
         due("20 clear since", w.apply(), false);
         w.mend();
+        due("4 an empty one", w.clear(4), 0);
         due("20 not changed since", w.apply(), true);
     }
 

@@ -67,7 +67,7 @@ final class SlowBench {
         if (!in(f, 0, 5)) return NONE;
         int had = functions.get(f).size();
         functions.get(f).clear();
-        changedSince = true;
+        changedSince |= had != 0;
         return had;
     }
 
