@@ -496,6 +496,8 @@ public final class WrittenBench {
                     if (end != GOES_ON) {
                         return end;
                     }
+                    // Only here: an INSTRUCTION that ends the RUN is not done, though its USE counts.
+                    done++;
                 } else if (open <= 1) {
                     return RETURNED;
                 } else {
@@ -530,7 +532,6 @@ public final class WrittenBench {
         private int doOne() {
             int at = locate(function, place);
             lookAtUse(at);
-            done++;
             place++;
             int a = program.a[at];
             switch (program.op[at]) {

@@ -197,10 +197,12 @@ public final class PromisesTest {
         x.empty();
         x.input(3);
         due("7 v 3 is refused", x.run(), 1);
-        due("7 with the refused one", x.ran(0), 2);
+        due("8 the refused STORE is not done", x.ran(0), 1);
+        due("8 its use is no bad one", x.ran(1), 0);
         due("7 nothing stored", x.ran(5), 1);
         x.change(0, 1, LOAD, 4, 5, 3, 0);
         due("7 LOAD is refused", x.run(), 1);
+        due("8 the refused LOAD is not done", x.ran(0), 1);
         x.change(0, 0, COPY, 0, 0, 1, 0);
         due("7 unwritten v", x.run(), 0);
         due("7 its use is bad", x.ran(1), 1);
@@ -210,6 +212,12 @@ public final class PromisesTest {
         due("7 refused with an unwritten v", x.run(), 1);
         due("7 the use counts", x.ran(1), 1);
         due("7 where", x.ran(3), 2);
+        due("8 the LOAD is not done, though its use counts", x.ran(0), 2);
+        x.change(0, 2, STORE, 4, 8, 0, 5);
+        due("7 so is a STORE", x.run(), 1);
+        due("8 the use of the STORE counts", x.ran(1), 1);
+        due("8 the STORE is not done", x.ran(0), 2);
+        due("14 the use of a refused one shows", x.witness(0, 2, 1), 0);
     }
 
     private static void runsCells() {
@@ -258,7 +266,7 @@ public final class PromisesTest {
         WrittenBench y = new WrittenBench();
         put(y, 0, CALL, 0);
         due("7 a call with 12 open", y.run(), 3);
-        due("7 with the last call", y.ran(0), 12);
+        due("8 the call that finds 12 open is not done", y.ran(0), 11);
         WrittenBench z = new WrittenBench();
         for (int k = 0; k < 10; k++) put(z, 0, CALL, 1);
         for (int k = 0; k < 10; k++) put(z, 1, CALL, 2);
@@ -274,6 +282,13 @@ public final class PromisesTest {
         z.change(0, 29, CALL, 2, 0, 0, 0);
         due("7 one more would be", z.run(), 2);
         due("7 1000 again", z.ran(0), 1000);
+        z.change(0, 29, STORE, 4, 7, 0, 5);
+        due("7 refused as the 1000th", z.run(), 1);
+        due("8 999 are done", z.ran(0), 999);
+        put(z, 3, READ, 1);
+        z.change(0, 28, CALL, 3, 0, 0, 0);
+        due("7 1000 are done ahead of it", z.run(), 2);
+        due("8 1000 once more", z.ran(0), 1000);
         WrittenBench s = new WrittenBench();
         put(s, 0, SET, 1, 5);
         put(s, 0, SKIP, 0, -3);

@@ -147,17 +147,17 @@ final class SlowBench {
                 case 4: r.prints.add(v[o[1]]); break;
                 case 5: if (v[o[1]] == 0) top[1] = i + o[2] + 1; break;
                 case 6:
-                    if (v[o[3]] >= o[2]) { r.end = 1; return r; }
+                    if (v[o[3]] >= o[2]) { r.done--; r.end = 1; return r; }
                     r.value[o[1] + v[o[3]]] = v[o[4]];
                     r.written[o[1] + v[o[3]]] = w[o[4]];
                     break;
                 case 7:
-                    if (v[o[4]] >= o[3]) { r.end = 1; return r; }
+                    if (v[o[4]] >= o[3]) { r.done--; r.end = 1; return r; }
                     r.value[o[1]] = v[o[2] + v[o[4]]];
                     r.written[o[1]] = w[o[2] + v[o[4]]];
                     break;
                 case 8:
-                    if (stack.size() == 12) { r.end = 3; return r; }
+                    if (stack.size() == 12) { r.done--; r.end = 3; return r; }
                     stack.push(new int[] {o[1], 0});
                     break;
                 case 9: stack.pop(); if (stack.isEmpty()) { r.end = 0; return r; } break;
