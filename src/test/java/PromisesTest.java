@@ -1,42 +1,5 @@
 /** Each promise of the document by hand: ordinary inputs, the edges that it names, and wrong inputs. */
-public final class PromisesTest {
-    private static final int SET = 0;
-    private static final int COPY = 1;
-    private static final int ADD = 2;
-    private static final int READ = 3;
-    private static final int PRINT = 4;
-    private static final int SKIP = 5;
-    private static final int STORE = 6;
-    private static final int LOAD = 7;
-    private static final int CALL = 8;
-    private static final int RETURN = 9;
-    private static final int FREE = 10;
-    private static final int OUTSIDE = 11;
-    private static final int MIN = Integer.MIN_VALUE;
-    private static final int MAX = Integer.MAX_VALUE;
-
-    private static int wrong = 0;
-    private static int checks = 0;
-
-    private static void due(String what, int got, int want) {
-        checks++;
-        if (got != want) {
-            wrong++;
-            System.out.println("PromisesTest: " + what + " answered " + got + ", due is " + want);
-        }
-    }
-
-    private static void due(String what, boolean got, boolean want) {
-        due(what, got ? 1 : 0, want ? 1 : 0);
-    }
-
-    /** Adds an instruction; the arguments that are not given are 0. */
-    private static int put(WrittenBench x, int f, int op, int... args) {
-        int[] all = new int[4];
-        System.arraycopy(args, 0, all, 0, args.length);
-        return x.code(f, op, all[0], all[1], all[2], all[3]);
-    }
-
+public final class PromisesTest extends Check {
     public static void main(String[] args) {
         newObject();
         code();
@@ -68,8 +31,7 @@ public final class PromisesTest {
         apply();
         applyRefuses();
         count();
-        System.out.println("PromisesTest: " + checks + " checks, " + wrong + " wrong");
-        if (wrong != 0) System.exit(1);
+        end("PromisesTest");
     }
 
     // Promise 1
