@@ -17,6 +17,7 @@ public final class FlowEdgesTest extends Check {
         loadOfAny();
         callsGoToTheBegin();
         whatReturnsGoesBehindEachCall();
+        whatReturnsLate();
         callsThatNeverReturn();
         rightSureMaybe();
         badUsesInOrder();
@@ -270,6 +271,13 @@ public final class FlowEdgesTest extends Check {
         allAre("behind it", y, 0, 3, 0);
         allAre("behind one in a function that is not", y, 3, 1, 0);
         due("no use is come to", y.flow(), 0);
+        WrittenBench other = of(o(CALL, 1));
+        put(other, 1, SET, 0, 1);
+        states("what returned", other, 0, 1, 0, W, U);
+        turn(other, 1, 0, SET, 1, 1);
+        states("what returns now", other, 0, 1, 0, U, W);
+        other.clear(1);
+        states("what returns of an empty one", other, 0, 1, 0, U, U);
         WrittenBench last = of(o(CALL, 1));
         put(last, 1, SET, 3, 3);
         states("a CALL as the last comes to the end", last, 0, 1, 2, U, W, U);
@@ -277,6 +285,22 @@ public final class FlowEdgesTest extends Check {
         WrittenBench two = of(o(CALL, 1));
         add(two, 1, o(SKIP, 0, 2), o(SET, 1, 1), o(RETURN), o(SET, 2, 1));
         states("of two ways to return", two, 0, 1, 0, U, BOTH, BOTH);
+    }
+
+    /** What comes to the RETURN by skips back alone, when all else stands still already, goes on too. */
+    private static void whatReturnsLate() {
+        says("what RETURNS from it, from whatever CALL, goes on behind each CALL of it that was come to.");
+        for (int cell = 0; cell < 16; cell++) {
+            int other = cell == 5 ? 6 : 5;
+            WrittenBench x = of(o(CALL, 1));
+            add(x, 1, o(SKIP, other, 3), o(RETURN), o(SKIP, other, -2), o(FREE, cell, 1), o(SET, cell, 1),
+                o(SKIP, other, -4), o(FREE, cell, 1));
+            states("written late", x, 0, 1, cell, BOTH);
+            WrittenBench y = of(o(SET, cell, 1), o(CALL, 1));
+            add(y, 1, o(SKIP, other, 3), o(RETURN), o(SKIP, other, -2), o(SET, cell, 1), o(FREE, cell, 1),
+                o(SKIP, other, -4), o(SET, cell, 1));
+            states("unwritten late", y, 0, 2, cell, BOTH);
+        }
     }
 
     private static void callsThatNeverReturn() {
@@ -329,6 +353,13 @@ public final class FlowEdgesTest extends Check {
         for (int k = 0; k < want.length; k++) {
             for (int what = 0; what < 4; what++) due("bad " + k + " " + what, x.bad(k, what), want[k][what]);
         }
+        says("Of BAD USE k by the program as it is what 0: FUNCTION, 1: INSTRUCTION, 2: the cell, 3: 1 SURE, 2 MAYBE.");
+        WrittenBench now = of(o(PRINT, 4));
+        due("with no flow() ahead", now.bad(0, 2), 4);
+        turn(now, 0, 0, PRINT, 5);
+        due("behind a change", now.bad(0, 2), 5);
+        now.clear(0);
+        due("behind clear", now.bad(0, 2), NONE);
         says("NONE without it, or for another what.");
         for (int k : new int[] {-1, 6, 7, 180, MIN, MAX}) {
             for (int what = 0; what < 4; what++) due("bad " + k, x.bad(k, what), NONE);
@@ -528,6 +559,15 @@ public final class FlowEdgesTest extends Check {
         due("MAYBE by its own CALL, SURE without it", x.needs(4), 1);
         add(x, 5, o(FREE, 0, 1), o(CALL, 5), o(PRINT, 1));
         due("no use is come to", x.needs(5), 0);
+        for (int f = 0; f < 6; f++) {
+            WrittenBench y = new WrittenBench();
+            for (int k = 0; k < 28; k++) put(y, f, SET, 3, k);
+            add(y, f, o(FREE, 0, 1), o(PRINT, 0));
+            due("SURE anyhow as the last of " + f, y.needs(f), 0);
+            y.clear(f);
+            add(y, f, o(PRINT, 7), o(FREE, 0, 1), o(PRINT, 0));
+            due("with one that is needed in " + f, y.needs(f), 1 << 7);
+        }
     }
 
     private static void needsAsIfItWereFunctionZero() {
@@ -573,6 +613,16 @@ public final class FlowEdgesTest extends Check {
         add(x, 0, o(SET, 7, 1), o(CALL, 3));
         due("whatever the program has ahead", x.writes(3), 1 << 1);
         due("FUNCTION 0 by itself and by the CALL", x.writes(0), 1 << 1 | 1 << 7);
+        // mend() tries SETS and takes FREE for OUTSIDE: nothing of that stays.
+        WrittenBench y = of(o(PRINT, 3), o(CALL, 1), o(FREE, 4, 1), o(PRINT, 5));
+        add(y, 1, o(PRINT, 6));
+        due("a mend", y.mend(), 3);
+        due("writes behind it", y.writes(0), 0);
+        due("writes of the called one behind it", y.writes(1), 0);
+        y.mend();
+        due("needs behind it", y.needs(0), 1 << 3 | 1 << 5 | 1 << 6);
+        y.mend();
+        due("flow behind it", y.flow(), 3);
     }
 
     private static void writesIfSomethingReturns() {

@@ -60,7 +60,10 @@ public final class MendEdgesTest extends Check {
         WrittenBench x = of(o(FREE, 2, 1), o(CALL, 1), o(SET, 2, 1), o(CALL, 1));
         put(x, 1, PRINT, 2);
         due("both come to FUNCTION 1", x.mend(), -1);
+        turn(x, 0, 0, SET, 2, 1);
         turn(x, 0, 2, FREE, 2, 1);
+        due("both come, the written one first", x.mend(), -1);
+        turn(x, 0, 0, FREE, 2, 1);
         due("only unwritten ones come", x.mend(), 1);
         mends("at FUNCTION 1", x, 1, 2);
         WrittenBench y = of(o(CALL, 1), o(SET, 2, 1), o(CALL, 1));
@@ -115,6 +118,8 @@ public final class MendEdgesTest extends Check {
         due("99", x.mend(), 99);
         put(x, 0, PRINT, 1);
         due("twice 99", x.mend(), 198);
+        for (int k = 2; k < 12; k++) put(x, 0, PRINT, k);
+        due("12 of 99", x.mend(), 1188);
         x.clear(0);
         due("clear leaves the COST", x.count(20), 99);
     }
@@ -516,6 +521,11 @@ public final class MendEdgesTest extends Check {
                 due("INSTRUCTIONS", x.count(10), at + 1 + n >= 0 ? 5 : 4);
             }
         }
+        WrittenBench gone = of(o(SET, 2, 0), o(SKIP, 2, -30));
+        gone.clear(0);
+        put(gone, 0, PRINT, 1);
+        due("1", gone.mend(), 1);
+        due("a SKIP that is there no more", gone.apply(), true);
         WrittenBench last = new WrittenBench();
         for (int k = 0; k < 28; k++) put(last, 0, PRINT, 1);
         put(last, 0, SKIP, 1, -30);

@@ -232,12 +232,17 @@ public final class RunEdgesTest extends Check {
         WrittenBench y = of(o(CALL, 5), o(CALL, 5), o(PRINT, 0));
         due("calls of an empty function", y.run(), 0);
         due("3 done", y.ran(0), 3);
+        says("9 RETURN.");
         put(y, 5, RETURN);
         y.run();
         due("RETURN is one", y.ran(0), 5);
         put(y, 5, PRINT, 0);
         y.run();
         due("nothing behind RETURN", y.ran(0), 5);
+        for (int k = 0; k < 28; k++) put(y, 5, RETURN);
+        turn(y, 5, 0, SKIP, 0, 28);
+        y.run();
+        due("as the last of 30", y.ran(0), 7);
     }
 
     private static void storeAtItsEdges() {
@@ -347,7 +352,22 @@ public final class RunEdgesTest extends Check {
         due("two are written", x.ran(5), 2);
         due("reads the first again", x.cell(5, 0), 44);
         due("and then what is behind", x.cell(1, 0), 0);
-        due("all others are 0", x.cell(15, 0), 0);
+        for (int k = 0; k < 16; k++) due("all are 0 but 5", x.cell(k, 0), k == 5 ? 44 : 0);
+        // However the one ahead ended, and wherever.
+        int[][] ends = {{STORE, 0, 8, 9, 0}, {SKIP, 8, -1}, {CALL, 1}};
+        for (int e = 0; e < ends.length; e++) {
+            WrittenBench y = of(o(SET, 0, 7), o(SET, 9, 8), o(CALL, 1));
+            add(y, 1, ends[e]);
+            due("the one ahead", y.run(), e + 1);
+            y.clear(1);
+            due("the next one", y.run(), 0);
+            due("3 done", y.ran(0), 3);
+            due("none is bad", y.ran(1), 0);
+            y.clear(0);
+            due("and one of nothing", y.run(), 0);
+            for (int k = 0; k < 16; k++) due("all are 0", y.cell(k, 0), 0);
+            for (int what = 0; what < 6; what++) due("what " + what, y.ran(what), what == 2 || what == 3 ? NONE : 0);
+        }
     }
 
     private static void functionZeroReturns() {
@@ -581,7 +601,7 @@ public final class RunEdgesTest extends Check {
             due("what was printed stays", x.printed(38), 39);
             x.run();
             due("less", x.ran(4), n % 10);
-            due("none behind the last", x.printed(n % 10), NONE);
+            for (int i = n % 10; i < 41; i++) due("none behind the last: " + i, x.printed(i), NONE);
             due("the last", n % 10 == 0 ? NONE : x.printed(n % 10 - 1), n % 10 == 0 ? NONE : n % 10);
         }
         due("ahead of any", printing(40).printed(0), NONE);
